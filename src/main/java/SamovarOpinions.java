@@ -22,7 +22,7 @@ public final class SamovarOpinions {
     private static final int POET = 1, GENERAL = 2, RIVAL = 3, PRINCESS = 4, ORPHAN = 5;
     private static final int[] UNDER = {NONE, 0, 0, POET, GENERAL, 0};
 
-    // TOKENS of a TEXT, most of them also what a Text is made of; 0 and more are NUMBERS themselves
+    // TOKENS of a TEXT, most of them also what a TEXT is kept as; 0 and more are NUMBERS themselves
     private static final int NAME_TOPIC = -1, NAME_LAST = -2, NAME_WARMTH = -3, NAME_NUMBER = -4;
     private static final int NAME_SAID = -5, NAME_PLACE = -6;
     private static final int OR = -7, AND = -8, NOT = -9, LESS = -10, SAME = -11;

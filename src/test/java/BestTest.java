@@ -11,6 +11,7 @@ public final class BestTest {
         ratherNot();
         topic();
         turns();
+        behindOthers();
         CHECK.end();
     }
 
@@ -62,6 +63,7 @@ public final class BestTest {
         x.set(1, 0, 32);
         int[] due = {312, 0, 3, 1};
         for (int what = 0; what <= 3; what++) {
+            x.drawn(1);
             CHECK.due("soonest(" + what + ")", x.soonest(what), due[what]);
         }
         x.set(1, 0, 33);
@@ -121,6 +123,32 @@ public final class BestTest {
         CHECK.due("its own topic stays", y.told(0, 4), 6);
     }
 
+    /** What was thought of ahead of it does not matter. */
+    private static void behindOthers() {
+        for (int ahead = 0; ahead < 3; ahead++) {
+            for (int call = 0; call < 8; call++) {
+                SamovarOpinions x = Check.with(0, 0, 0, 3, 3, 0);
+                Check.lay(x, 0, 1);
+                int thought = ahead == 0 ? x.drawn(1) : ahead == 1 ? x.evening(0, 0) : x.tells(0, 0);
+                CHECK.isTrue("some number", thought >= -2);
+                int[] got = {x.warmest(0)};
+                thought = ahead == 0 ? x.drawn(1) : ahead == 1 ? x.evening(0, 0) : x.hold(1);
+                int answer = call == 0 ? got[0] : call == 1 ? x.warmest(1) : call == 2 ? x.soonest(0)
+                    : call == 3 ? x.ratherNot(0) : call == 4 ? x.topic(0, 0) : call == 5 ? x.topic(0, 1)
+                    : call == 6 ? x.turns(0) : x.turns(1);
+                int[] due = {21, 31, -1, -1, 7, 38, 31, 1};
+                CHECK.due("call " + call + " behind others", answer, due[call]);
+            }
+        }
+        SamovarOpinions x = new SamovarOpinions();
+        x.image();
+        x.guest(0, 0, 0);
+        CHECK.due("the only one", x.turns(1), 0);
+        x.back();
+        CHECK.due("none again", x.turns(1), -1);
+        CHECK.due("none again", x.warmest(0), 0);
+    }
+
     private static void turns() {
         // 9 is worth 9 at place 0, 0 at place 1, -9 at place 2: the one calls it first
         SamovarOpinions x = Check.with(0, 1, 0, 0, 9, 0, 0, 2, 0);
@@ -141,5 +169,12 @@ public final class BestTest {
         // the one calls 3 away, that the other has 5 at least
         CHECK.due("the other calls the least", z.turns(0), 25);
         CHECK.due("so the one calls the 3 away", z.turns(1), 1);
+        // only at place 2: the one calls the least away, the other the 9, the one has the 3 of 2 and 3
+        SamovarOpinions w = Check.with(0, 2, 0, 0, 9, 0, 0, 1, 0, 0, 3, 0);
+        Check.read(w, "warms number*(place=2);cools 0;screams 0;");
+        w.force(1);
+        CHECK.due("the third call is the one's", w.turns(0), 23);
+        // whomever of 1 and 2 the one calls away, the 3 stays
+        CHECK.due("of like ones the first", w.turns(1), 0);
     }
 }

@@ -124,6 +124,9 @@ public final class GuestsTest {
         CHECK.due("cools of a GENERAL", x.told(0, 8), 3 + 20 - 2);
         x.set(0, 0, 50);
         CHECK.due("warms, warmer", x.told(0, 7), 16 + 50 + 3);
+        CHECK.due("an evening in thought", x.drawn(3), 69);
+        CHECK.due("warms behind that", x.told(0, 7), 16 + 50 + 3);
+        CHECK.due("cools behind that", x.told(0, 8), 3 + 50 - 2);
         CHECK.due("and nothing changes", x.told(0, 0), 50);
     }
 
@@ -140,6 +143,14 @@ public final class GuestsTest {
             CHECK.due("when EVENING is odd", x.told(0, 7), kind == 4 ? -7 : disliked[kind]);
             x.set(5, 0, 1);
             CHECK.due("when EVENING is odd", x.told(0, 7), kind == 4 ? 4 : liked[kind]);
+            for (int evening : new int[] {1, 3, 9, 999}) {
+                x.set(2, 0, evening);
+                CHECK.due("when EVENING is odd", x.told(0, 7), kind == 4 ? 4 : liked[kind]);
+            }
+            for (int evening : new int[] {2, 4, 10, 998}) {
+                x.set(2, 0, evening);
+                CHECK.due("when EVENING is even", x.told(0, 7), liked[kind]);
+            }
         }
         SamovarOpinions x = Check.with(5, 0, 0);
         Check.read(x, "warms 2;cools 0;screams 0;");
@@ -181,5 +192,7 @@ public final class GuestsTest {
         Check.read(x, "warms 0;cools 0-4;screams 0;");
         x.force(1);
         CHECK.due("a RIVAL again, with cools below 0", x.evening(0, 11), 50 - 2);
+        CHECK.due("a RIVAL, with cools below 0", x.told(1, 8), 0);
+        CHECK.due("a GUEST, with cools below 0", x.told(0, 8), 0);
     }
 }

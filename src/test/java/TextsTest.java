@@ -5,6 +5,7 @@ public final class TextsTest {
     public static void main(String[] args) {
         feed();
         text();
+        longest();
         force();
         values();
         names();
@@ -45,6 +46,25 @@ public final class TextsTest {
         CHECK.due("full is ahead of a fault", Check.read(x, "?"), -4);
         CHECK.due("the tape stays", x.count(5), 27);
         CHECK.due("feed goes on", x.feed(32), 28);
+    }
+
+    /** Faults leave nothing behind, however many there were; the longest text has room then. */
+    private static void longest() {
+        SamovarOpinions x = Check.with(0, 0, 0);
+        StringBuilder sum = new StringBuilder("1");
+        for (int i = 0; i < 65; i++) {
+            sum.append("+1");
+        }
+        String text = "warms " + sum + ";cools 1;screams 1;";
+        CHECK.due("its size", text.length(), 156);
+        for (int i = 0; i < 9; i++) {
+            CHECK.due("with a fault in the end", Check.read(x, text + "?"), -256);
+        }
+        for (int n = 1; n <= 5; n++) {
+            CHECK.due("without", Check.read(x, text + "    "), n);
+        }
+        x.force(3);
+        CHECK.due("its sum", x.told(0, 7), 66);
     }
 
     private static String blanks(int n) {
@@ -192,6 +212,14 @@ public final class TextsTest {
         fault("Warms 1;", 0);
         fault("warm 1;", 0);
         fault("warmss 1;", 0);
+        fault("warmsa 1;", 0);
+        fault("warmsz 1;", 0);
+        fault("warms 1z;", 7);
+        fault("warms 1{;", 7);
+        fault("warms 1`;", 7);
+        fault("warms 1:;", 7);
+        fault("warms 1/2;", 7);
+        fault("warms 1,2;", 7);
         fault("warmscools", 0);
         fault("warms hot;", 6);
         fault("warms topics;", 6);
@@ -221,6 +249,8 @@ public final class TextsTest {
         fault("warms 1;cools 1;screams 1;;", 26);
         fault("warms 1;cools 1;screams 1; warms", 27);
         fault("cools 1;", 0);
+        fault("warms 1;cools 1;(1;", 16);
+        fault("warms screams 1);cools 1;screams 1;", 6);
         fault("warms 1;screams 1;", 8);
         fault("warms ;", 6);
         fault("warms +1;", 6);
@@ -243,6 +273,21 @@ public final class TextsTest {
         fault("warms (1)(2);", 9);
         fault("warms warms;", 6);
         fault("warms (1 or 2;", 13);
+        // the rest is a text that could stand, were the fault none
+        String rest = ";cools 1;screams 1;";
+        fault("warms" + rest, 5);
+        fault("warms 1 or" + rest, 10);
+        fault("warms 1 and" + rest, 11);
+        fault("warms not" + rest, 9);
+        fault("warms 1<" + rest, 8);
+        fault("warms 1=" + rest, 8);
+        fault("warms 1+" + rest, 8);
+        fault("warms 1-" + rest, 8);
+        fault("warms 1*" + rest, 8);
+        fault("warms -" + rest, 7);
+        fault("warms (" + rest, 7);
+        fault("warms (1" + rest, 8);
+        fault("warms 1)" + rest, 7);
         good("warms 1 and not 2 or not not 3 < 4;cools (not 1)<2;screams -(not 1);");
     }
 

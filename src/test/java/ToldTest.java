@@ -148,6 +148,12 @@ public final class ToldTest {
         CHECK.due("its own topic stays", x.told(1, 4), 0);
         CHECK.due("nothing changes", x.told(0, 0), 20);
         CHECK.due("of none", new SamovarOpinions().drawn(7), 20);
+        SamovarOpinions w = Check.with(0, 0, 3, 0, 0, 4, 0, 0, 5);
+        w.drawn(99);
+        w.chance(99, 20, 0);
+        for (int guest = 0; guest < 3; guest++) {
+            CHECK.due("each has its own topic", w.told(guest, 4), 3 + guest);
+        }
     }
 
     private static void chance() {
@@ -199,6 +205,8 @@ public final class ToldTest {
         CHECK.isTrue("it screamed", screams > 0);
         CHECK.due("image", x.image(), 2);
         for (int round = 0; round < 2; round++) {
+            x.set(1, 0, 1);
+            CHECK.isTrue("it screams since", x.hold(0) > 0);
             x.force(0);
             x.set(5, 0, 0);
             x.set(5, 1, 1);

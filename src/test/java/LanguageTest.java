@@ -1,0 +1,120 @@
+import java.lang.reflect.Constructor;
+import java.lang.reflect.Field;
+import java.lang.reflect.Method;
+import java.lang.reflect.Modifier;
+import java.nio.charset.StandardCharsets;
+import java.nio.file.Files;
+import java.nio.file.Path;
+import java.util.ArrayList;
+import java.util.Arrays;
+import java.util.List;
+import java.util.Set;
+import java.util.TreeSet;
+import java.util.regex.Matcher;
+import java.util.regex.Pattern;
+
+/** The face of the document, and those rules of LANGUAGE.md that can be seen from outside. */
+public final class LanguageTest {
+    private static final Check CHECK = new Check("LanguageTest");
+    private static final String[] FACE = {
+        "int set(int,int,int)", "int guest(int,int,int)", "int told(int,int)", "int feed(int)", "int text()",
+        "int force(int)", "int evening(int,int)", "int hold(int)", "int warmest(int)", "int soonest(int)",
+        "int ratherNot(int)", "int topic(int,int)", "int turns(int)", "int tells(int,int)", "int film(int)",
+        "int drawn(int)", "long chance(int,int,int)", "int image()", "int back()", "int count(int)",
+        "int sheet(int,int,int)", "int cell(int,int,int)", "int copy(int,int,int,int,int)",
+        "int guests(int,int,int,int)", "int taken(int,int)"};
+
+    public static void main(String[] args) throws Exception {
+        face();
+        insides();
+        source();
+        CHECK.end();
+    }
+
+    private static String signature(Method m) {
+        StringBuilder b = new StringBuilder(m.getReturnType().getName()).append(' ').append(m.getName()).append('(');
+        for (Class<?> c : m.getParameterTypes()) {
+            b.append(b.charAt(b.length() - 1) == '(' ? "" : ",").append(c.getName());
+        }
+        return b.append(')').toString();
+    }
+
+    private static void face() {
+        Class<?> c = SamovarOpinions.class;
+        CHECK.isTrue("public and final", Modifier.isPublic(c.getModifiers()) && Modifier.isFinal(c.getModifiers()));
+        Set<String> is = new TreeSet<>();
+        for (Method m : c.getDeclaredMethods()) {
+            if (Modifier.isPublic(m.getModifiers())) {
+                is.add(signature(m));
+            } else {
+                CHECK.isTrue(m + " is private", Modifier.isPrivate(m.getModifiers()));
+            }
+        }
+        CHECK.isTrue("the face's methods: " + is, is.equals(new TreeSet<>(Arrays.asList(FACE))));
+        Set<String> fields = new TreeSet<>();
+        for (Field f : c.getDeclaredFields()) {
+            if (Modifier.isPublic(f.getModifiers())) {
+                fields.add(f.getType() + " " + f.getName());
+            } else {
+                CHECK.isTrue(f + " is private", Modifier.isPrivate(f.getModifiers()));
+            }
+        }
+        CHECK.isTrue("the face's constants: " + fields,
+            fields.equals(Set.of("int NONE", "int BAD", "int STATE", "int FULL", "long NO")));
+        Constructor<?>[] made = c.getDeclaredConstructors();
+        CHECK.isTrue("one public constructor of nothing",
+            made.length == 1 && Modifier.isPublic(made[0].getModifiers()) && made[0].getParameterCount() == 0);
+    }
+
+    private static void insides() {
+        Set<String> names = new TreeSet<>();
+        for (String s : FACE) {
+            names.add(s.substring(s.indexOf(' ') + 1, s.indexOf('(')));
+        }
+        List<Class<?>> all = new ArrayList<>(Arrays.asList(SamovarOpinions.class.getDeclaredClasses()));
+        CHECK.isTrue("some twelve classes", all.size() <= 11);
+        for (Class<?> c : all) {
+            CHECK.isTrue(c + " is static", Modifier.isStatic(c.getModifiers()));
+            CHECK.isTrue(c + " is not open", !Modifier.isPublic(c.getModifiers()) && !Modifier.isProtected(c.getModifiers()));
+            for (Method m : c.getDeclaredMethods()) {
+                CHECK.isTrue(m + " has a name of its own", !names.contains(m.getName()));
+            }
+        }
+        all.add(SamovarOpinions.class);
+        for (Class<?> c : all) {
+            int fields = 0;
+            for (Field f : c.getDeclaredFields()) {
+                boolean isStatic = Modifier.isStatic(f.getModifiers());
+                fields += isStatic ? 0 : 1;
+                CHECK.isTrue(f + " is final, if static", !isStatic || Modifier.isFinal(f.getModifiers()));
+            }
+            CHECK.isTrue(c + " has some twenty fields", fields <= 20);
+            for (Method m : c.getDeclaredMethods()) {
+                CHECK.isTrue(m + " has seven parameters at most", m.getParameterCount() <= 7);
+            }
+        }
+    }
+
+    private static void source() throws Exception {
+        byte[] bytes = Files.readAllBytes(Path.of("src/main/java/SamovarOpinions.java"));
+        boolean plain = true;
+        for (byte b : bytes) {
+            plain &= b > 0;
+        }
+        CHECK.isTrue("signs 1 to 127", plain);
+        String code = new String(bytes, StandardCharsets.US_ASCII).replaceAll("(?s)/\\*.*?\\*/", "")
+            .replaceAll("//[^\n]*", "").replaceAll("\"[^\"\n]*\"", "\"\"");
+        for (String word : List.of("throw", "throws", "try", "catch", "synchronized", "assert", "import", "package",
+                "float", "native", "volatile", "Exception", "Object", "equals", "hashCode", "toString")) {
+            CHECK.isTrue("no " + word, !Pattern.compile("\\b" + word + "\\b").matcher(code).find());
+        }
+        CHECK.isTrue("no lambda, no method reference", !code.contains("->") && !code.contains("::"));
+        Matcher m = Pattern.compile("\n( {4}| {8})(\\w[^\n;=]*\\)) \\{\n(.*?)\n\\1\\}", Pattern.DOTALL).matcher(code);
+        int methods = 0;
+        while (m.find()) {
+            methods++;
+            CHECK.isTrue(m.group(2) + " is short", m.group(3).split("\n").length <= 58);
+        }
+        CHECK.isTrue("methods were found", methods > 100);
+    }
+}
