@@ -1,3 +1,4 @@
+import java.io.DataInputStream;
 import java.lang.reflect.Constructor;
 import java.lang.reflect.Field;
 import java.lang.reflect.Method;
@@ -28,6 +29,8 @@ public final class LanguageTest {
         face();
         insides();
         source();
+        library();
+        noneCallsItselfUnseen();
         CHECK.end();
     }
 
@@ -116,5 +119,81 @@ public final class LanguageTest {
             CHECK.isTrue(m.group(2) + " is short", m.group(3).split("\n").length <= 58);
         }
         CHECK.isTrue("methods were found", methods > 100);
+    }
+
+    private static final Pattern MAY_USE = Pattern.compile("java/lang/Object\\.<init>|"
+        + "java/lang/String\\.(length|charAt|isEmpty|equals|indexOf|substring|toCharArray|<init>)|"
+        + "java/lang/StringBuilder\\.(<init>|append|charAt|setCharAt|setLength|deleteCharAt|reverse|length|toString)|"
+        + "java/lang/(Math|Integer|Long)\\.(compare|max|min|abs|bitCount|floorDiv|floorMod)|"
+        + "java/lang/System\\.arraycopy|java/util/Arrays\\.(copyOf|copyOfRange|fill)|"
+        + "java/util/(ArrayList|List)\\.(<init>|add|get|set|remove|size|isEmpty|clear|of)|\\[[IJBC]\\.clone");
+
+    /** The library's parts that the class names, as they stand in its compiled form. */
+    private static void library() throws Exception {
+        List<String> files = new ArrayList<>(List.of("SamovarOpinions"));
+        for (Class<?> c : SamovarOpinions.class.getDeclaredClasses()) {
+            files.add(c.getName());
+        }
+        int used = 0;
+        for (String file : files) {
+            try (DataInputStream in = new DataInputStream(
+                    SamovarOpinions.class.getResourceAsStream(file + ".class"))) {
+                for (String name : namedIn(in)) {
+                    if (!name.startsWith("SamovarOpinions")) {
+                        used++;
+                        CHECK.isTrue(file + " may use " + name, MAY_USE.matcher(name).matches());
+                    }
+                }
+            }
+        }
+        CHECK.isTrue("something was found", used > 0);
+    }
+
+    /** Each field and method that a class file names, as Owner.name. */
+    private static List<String> namedIn(DataInputStream in) throws Exception {
+        in.readInt();
+        in.readInt();
+        int n = in.readUnsignedShort();
+        String[] words = new String[n];
+        int[][] pairs = new int[n][];
+        boolean[] isMember = new boolean[n];
+        for (int i = 1; i < n; i++) {
+            int tag = in.readUnsignedByte();
+            switch (tag) {
+                case 1: words[i] = in.readUTF(); break;
+                case 3: case 4: in.readInt(); break;
+                case 5: case 6: in.readLong(); i++; break;
+                case 7: case 8: case 16: case 19: case 20: pairs[i] = new int[] {in.readUnsignedShort()}; break;
+                case 15: in.readUnsignedByte(); in.readUnsignedShort(); break;
+                default:
+                    pairs[i] = new int[] {in.readUnsignedShort(), in.readUnsignedShort()};
+                    isMember[i] = tag >= 9 && tag <= 11;
+                    CHECK.isTrue("no call that is put together as it runs", tag != 17 && tag != 18);
+                    break;
+            }
+        }
+        List<String> named = new ArrayList<>();
+        for (int i = 1; i < n; i++) {
+            if (isMember[i]) {
+                named.add(words[pairs[pairs[i][0]][0]] + "." + words[pairs[pairs[i][1]][0]]);
+            }
+        }
+        return named;
+    }
+
+    /** A method that calls itself by its name carries how deep it is: its first number is open or ahead. */
+    private static void noneCallsItselfUnseen() throws Exception {
+        String code = Files.readString(Path.of("src/main/java/SamovarOpinions.java"), StandardCharsets.US_ASCII);
+        Matcher m = Pattern.compile("\n( {4}| {8})(?! )[\\w\\[\\] ]*?(\\w+)\\(([^\n)]*)\\) \\{\n(.*?)\n\\1\\}", Pattern.DOTALL)
+            .matcher(code);
+        int found = 0;
+        while (m.find()) {
+            if (Pattern.compile("(?<![\\w.])" + m.group(2) + "\\(").matcher(m.group(4)).find()) {
+                found++;
+                CHECK.isTrue(m.group(2) + " tells how deep it is", m.group(3).startsWith("int open")
+                    || m.group(3).startsWith("int ahead"));
+            }
+        }
+        CHECK.isTrue("some were found", found >= 4);
     }
 }

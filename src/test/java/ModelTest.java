@@ -26,7 +26,88 @@ public final class ModelTest {
         for (int seed = 0; seed < 20000; seed++) {
             texts(seed);
         }
+        for (int seed = 0; seed < 6; seed++) {
+            edges(seed);
+        }
         CHECK.end();
+    }
+
+    private static final int[] EDGES = {Integer.MIN_VALUE, -1, 0, 1, 2, 3, 4, 5, 6, 40, 41, Integer.MAX_VALUE};
+    private static final int[] FEWER = {Integer.MIN_VALUE, -1, 0, 1, 3, 4, 40, Integer.MAX_VALUE};
+    private static final int[] WHATS = {Integer.MIN_VALUE, -1, 0, 1, 2, 3, 4, 5, 6, 7, 8, 9, 10, 11, 14, 15, 19, 20, 24, 25,
+        30, 34, 35, 39, 40, 99, 100, 999, 1000, Integer.MAX_VALUE};
+
+    /** An object with some of all, used for a number of calls; then another one. */
+    private ModelTest afresh(int seed) {
+        if (calls < 400 && calls > 0) {
+            return this;
+        }
+        ModelTest t = new ModelTest(-30000 - seed);
+        for (int i = 0; i <= seed % 6; i++) {
+            int kind = (i + seed) % 6;
+            t.same("guest", t.x.guest(kind, i, i), t.model.guest(kind, i, i));
+        }
+        int[] sorts = {seed % 3, 2, 2, -1};
+        int[] sizes = {5, 40, 3, 0};
+        for (int sheet = 0; sheet < 4; sheet++) {
+            t.same("sheet", t.x.sheet(sheet, sorts[sheet], sizes[sheet]), t.model.sheet(sheet, sorts[sheet], sizes[sheet]));
+            for (int i = 0; i < Math.min(6, sizes[sheet]); i++) {
+                int v = sheet == 0 ? i : (i * 3 + seed) % 5;
+                t.same("cell", t.x.cell(sheet, i, v), t.model.cell(sheet, i, v));
+            }
+        }
+        return t;
+    }
+
+    /** Each method with numbers at the edges of what it is given, in each combination. */
+    private static void edges(int seed) {
+        ModelTest t = new ModelTest(seed);
+        for (int a : EDGES) {
+            for (int b : WHATS) {
+                t = t.afresh(seed);
+                t.two(a, b);
+                for (int c : EDGES) {
+                    t = t.afresh(seed);
+                    t.three(a, b, c);
+                }
+            }
+        }
+        for (int a : FEWER) {
+            for (int b : FEWER) {
+                for (int row = 0; row < 512; row++) {
+                    int c = FEWER[row % 8], d = FEWER[row / 8 % 8], e = FEWER[row / 64];
+                    t = t.afresh(seed);
+                    t.same("copy", t.x.copy(a, c, b, d, e), t.model.copy(a, c, b, d, e));
+                    t.same("guests", t.x.guests(a, b, c, e), t.model.guests(a, b, c, e));
+                }
+            }
+        }
+    }
+
+    private void two(int a, int b) {
+        same("told " + a + " " + b, x.told(a, b), model.told(a, b));
+        same("evening " + a + " " + b, x.evening(a, b), model.evening(a, b));
+        same("topic " + a + " " + b, x.topic(a, b), model.topic(a, b));
+        same("tells " + a + " " + b, x.tells(a, b), model.tells(a, b));
+        same("taken " + a + " " + b, x.taken(a, b), model.taken(a, b));
+        same("warmest " + b, x.warmest(b), model.warmest(b));
+        same("soonest " + b, x.soonest(b), model.soonest(b));
+        same("ratherNot " + b, x.ratherNot(b), model.ratherNot(b));
+        same("turns " + b, x.turns(b), model.turns(b));
+        same("count " + b, x.count(b), model.count(b));
+        same("force " + b, x.force(b), model.force(b));
+        same("feed " + b, x.feed(b), model.feed(b));
+        same("drawn " + b, x.drawn(b), model.drawn(b));
+        same("hold " + a, x.hold(a), model.hold(a));
+        same("film " + a, x.film(a), model.film(a));
+    }
+
+    private void three(int a, int b, int c) {
+        same("set " + a + " " + c + " " + b, x.set(a, c, b), model.set(a, c, b));
+        same("guest " + a + " " + b + " " + c, x.guest(a, b, c), model.guest(a, b, c));
+        same("chance " + a + " " + b + " " + c, x.chance(a, b, c), model.chance(a, b, c));
+        same("sheet " + a + " " + c + " " + b, x.sheet(a, c, b), model.sheet(a, c, b));
+        same("cell " + a + " " + c + " " + b, x.cell(a, c, b), model.cell(a, c, b));
     }
 
     /** One text a seed: mostly right ones, some with a fault, and what they tell. */

@@ -40,7 +40,7 @@ public final class RoomTest {
         }
         x.text();
         x.force(1);
-        for (int i = 0; i < 20; i++) {
+        for (int i = 0; i < 7; i++) {
             x.sheet(0, 2, 5);
             x.cell(0, 1, 1);
             x.cell(0, 2, 2);
