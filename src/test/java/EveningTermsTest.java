@@ -597,7 +597,7 @@ public final class EveningTermsTest {
             CHECK.due("of no GUESTS none", none.chance(4, m, 0), 0);
             CHECK.due("of no GUESTS none", none.chance(4, m, 1), 1);
         }
-        // odd seeds have odd and even ones in turn at bit 9 and above: find a half, a quarter, three quarters
+        // m's with many divisors, so that most quotients have to be made lower
         SamovarOpinions z = by("warms 99;cools 0;screams topic<4;", 0, 0, 0);
         for (int seed = 0; seed < 40; seed++) {
             for (int m : new int[] {12, 18, 20}) {

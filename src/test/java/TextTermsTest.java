@@ -55,7 +55,7 @@ public final class TextTermsTest {
         CHECK.due("the tape is empty then", x.count(5), 0);
     }
 
-    /** An E is not below 0, and is what it is, as warms and as cools; and screams if it isn't 0. */
+    /** What an E is: told as warms, as cools (there 0 at least), and as screams (there 0 or not). */
     private static void is(String e, int value) {
         SamovarOpinions x = Check.with(0, 0, 0);
         CHECK.due("text of " + e, Check.read(x, "warms " + e + ";cools 0;screams 0;"), 1);
