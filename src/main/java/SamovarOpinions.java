@@ -50,7 +50,7 @@ public final class SamovarOpinions {
         for (int i = 0; i < FIRST_RULE.length(); i++) {
             tape.take(FIRST_RULE.charAt(i));
         }
-        text();
+        reader.read();
     }
 
     // ---- the samovar, guests
@@ -99,12 +99,7 @@ public final class SamovarOpinions {
     }
 
     public int text() {
-        if (texts.isFull()) {
-            return FULL;
-        }
-        int fault = reader.read();
-        tape.clear();
-        return fault == NONE ? texts.keepDraft() : -100 - fault;
+        return texts.isFull() ? FULL : reader.read();
     }
 
     public int force(int text) {
@@ -839,7 +834,7 @@ public final class SamovarOpinions {
     }
 
     /**
-     * Reads THE TAPE as the draft of a TEXT. Each reading method answers whether what it reads stood there, and leaves
+     * Reads THE TAPE as a TEXT. Each reading method answers whether what it reads stood there, and leaves
      * the tape at the TOKEN that couldn't stand there if not; open is how many of ( , not, - are open.
      */
     private static final class Reader {
@@ -851,12 +846,13 @@ public final class SamovarOpinions {
             this.texts = texts;
         }
 
-        /** The place of the FAULT, or NONE: then the draft is whole. */
+        /** The number of the TEXT that THE TAPE is, or -100 less the place of its FAULT; THE TAPE is empty then. */
         int read() {
             texts.beginDraft();
             tape.rewind();
             boolean isText = readPart(WARMS) && readPart(COOLS) && readPart(SCREAMS) && tape.token == TAPE_END;
-            return isText ? NONE : tape.tokenFrom;
+            tape.clear();
+            return isText ? texts.keepDraft() : -100 - tape.tokenFrom;
         }
 
         private boolean readPart(int key) {

@@ -27,6 +27,30 @@ final class Check {
         }
     }
 
+    /** A text that a new object reads. */
+    void good(String text) {
+        SamovarOpinions x = new SamovarOpinions();
+        due("text of '" + text + "'", read(x, text), 1);
+        due("a text more", x.count(4), 2);
+        due("the tape is empty then", x.count(5), 0);
+    }
+
+    /** A text that a new object doesn't read for what stands at a place of it. */
+    void fault(String text, int place) {
+        SamovarOpinions x = new SamovarOpinions();
+        due("text of '" + text + "'", read(x, text), -100 - place);
+        due("no text more", x.count(4), 1);
+        due("the tape is empty then", x.count(5), 0);
+    }
+
+    /** A new object with a text as its rule, and guests, three numbers each: kind, number, topic. */
+    SamovarOpinions by(String text, int... guests) {
+        SamovarOpinions x = with(guests);
+        due("text of " + text, read(x, text), 1);
+        due("force(1)", x.force(1), 0);
+        return x;
+    }
+
     /** A text comes on the tape; what text() answers. */
     static int read(SamovarOpinions x, String text) {
         for (int i = 0; i < text.length(); i++) {

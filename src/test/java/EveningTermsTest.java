@@ -38,22 +38,15 @@ public final class EveningTermsTest {
         CHECK.end();
     }
 
-    private static SamovarOpinions by(String text, int... guests) {
-        SamovarOpinions x = Check.with(guests);
-        CHECK.due("text of " + text, Check.read(x, text), 1);
-        CHECK.due("force(1)", x.force(1), 0);
-        return x;
-    }
-
     /** So many GUESTS, all alike. */
     private static SamovarOpinions alike(int n, String text) {
         int[] guests = new int[3 * n];
-        return by(text, guests);
+        return CHECK.by(text, guests);
     }
 
     /** AN ORDER: some GUESTS. */
     private static void ordersOfSome() {
-        SamovarOpinions x = by("warms number;cools 0;screams 0;", 0, 1, 0, 0, 2, 0, 0, 3, 0, 0, 4, 0, 0, 5, 0);
+        SamovarOpinions x = CHECK.by("warms number;cools 0;screams 0;", 0, 1, 0, 0, 2, 0, 0, 3, 0, 0, 4, 0, 0, 5, 0);
         int[][] orders = {{0}, {4}, {1, 3}, {4, 0, 2}, {3, 2, 1, 0}, {4, 3, 2, 1, 0}};
         for (int[] order : orders) {
             Check.lay(x, 0, order);
@@ -102,7 +95,7 @@ public final class EveningTermsTest {
 
     /** WARMTH is less by COOLS, then more by WARMS. */
     private static void coolsFirst() {
-        SamovarOpinions x = by("warms 10;cools 10;screams 0;", 0, 0, 0);
+        SamovarOpinions x = CHECK.by("warms 10;cools 10;screams 0;", 0, 0, 0);
         Check.lay(x, 0, 0);
         x.set(0, 0, 95);
         CHECK.due("95 - 10 + 10", x.evening(0, 0), 95);
@@ -118,7 +111,7 @@ public final class EveningTermsTest {
 
     /** 0 .. 99, else the bound, after each. */
     private static void bounds() {
-        SamovarOpinions x = by("warms 40*(place=1)-30*(place=2);cools 30*(place=0);screams 0;", 0, 0, 0, 0, 0, 0, 0, 0, 0);
+        SamovarOpinions x = CHECK.by("warms 40*(place=1)-30*(place=2);cools 30*(place=0);screams 0;", 0, 0, 0, 0, 0, 0, 0, 0, 0);
         Check.lay(x, 0, 0, 1, 2);
         x.set(0, 0, 29);
         int[] low = {0, 40, 10};
@@ -148,7 +141,7 @@ public final class EveningTermsTest {
 
     /** If it BOILS and screams (told with what WARMTH is then), it has SCREAMED. */
     private static void screamsThen() {
-        SamovarOpinions x = by("warms 10;cools 1;screams warmth=40;", 0, 0, 0, 0, 0, 0);
+        SamovarOpinions x = CHECK.by("warms 10;cools 1;screams warmth=40;", 0, 0, 0, 0, 0, 0);
         Check.lay(x, 0, 0, 1);
         x.set(1, 0, 30);
         x.set(0, 0, 31);
@@ -164,7 +157,7 @@ public final class EveningTermsTest {
         CHECK.due("40 doesn't boil", x.evening(0, 1), -1);
         CHECK.due("so it doesn't scream", x.evening(0, 2), 0);
         // a half that is LIMIT or more still has not boiled again
-        SamovarOpinions y = by("warms 0;cools 0;screams 1;", 0, 0, 0);
+        SamovarOpinions y = CHECK.by("warms 0;cools 0;screams 1;", 0, 0, 0);
         Check.lay(y, 0, 0);
         y.set(0, 0, 99);
         y.set(1, 0, 10);
@@ -174,7 +167,7 @@ public final class EveningTermsTest {
 
     /** In thought, AN EVENING begins with WARMTH as it is. */
     private static void beginsWithWarmthAsItIs() {
-        SamovarOpinions x = by("warms 1;cools 0;screams 0;", 0, 0, 0);
+        SamovarOpinions x = CHECK.by("warms 1;cools 0;screams 0;", 0, 0, 0);
         Check.lay(x, 0, 0);
         for (int warmth = 0; warmth < 98; warmth += 14) {
             x.set(0, 0, warmth);
@@ -202,11 +195,11 @@ public final class EveningTermsTest {
             CHECK.due("which is 0", cold.warmest(1), n == 0 ? 20 : 0);
         }
         // the one with 1 had better come last: 2 3 1 and 3 2 1 are alike
-        SamovarOpinions x = by("warms 9*(place=2)*(number=1);cools 0;screams 0;", 0, 1, 0, 0, 0, 0, 0, 0, 0);
+        SamovarOpinions x = CHECK.by("warms 9*(place=2)*(number=1);cools 0;screams 0;", 0, 1, 0, 0, 0, 0, 0, 0, 0);
         CHECK.due("the first of two", x.warmest(0), 231);
         CHECK.due("by these", x.warmest(1), 29);
         // only one is best, the last one
-        SamovarOpinions y = by("warms (place=0)*number+(place=1)*(number=4);cools 0;screams 0;",
+        SamovarOpinions y = CHECK.by("warms (place=0)*number+(place=1)*(number=4);cools 0;screams 0;",
             0, 1, 0, 0, 2, 0, 0, 3, 0, 0, 4, 0, 0, 5, 0);
         CHECK.due("5 4 1 2 3", y.warmest(0), 54123);
         CHECK.due("by that", y.warmest(1), 26);
@@ -249,12 +242,12 @@ public final class EveningTermsTest {
             soonestIs(x, order[guest], 0, guest + 1, 1);
         }
         // any two of 1, 3, 4: the first are 2 4
-        SamovarOpinions x = by("warms 30*number;cools 0;screams 0;", 0, 0, 0, 0, 1, 0, 0, 0, 0, 0, 1, 0, 0, 1, 0);
+        SamovarOpinions x = CHECK.by("warms 30*number;cools 0;screams 0;", 0, 0, 0, 0, 1, 0, 0, 0, 0, 0, 1, 0, 0, 1, 0);
         soonestIs(x, 24135, 1, 24, 2);
         x.set(1, 0, 81);
         soonestIs(x, 24513, 2, 245, 3);
         // 1 boils at the least place: it does not matter that an ORDER ahead boils later
-        SamovarOpinions y = by("warms 50*number;cools 0;screams 0;", 0, 0, 0, 0, 0, 0, 0, 1, 0);
+        SamovarOpinions y = CHECK.by("warms 50*number;cools 0;screams 0;", 0, 0, 0, 0, 0, 0, 0, 1, 0);
         soonestIs(y, 312, 0, 3, 1);
     }
 
@@ -287,15 +280,15 @@ public final class EveningTermsTest {
     /** FEW: the fewest who, in some ORDER, make it BOIL; the first such ORDER. */
     private static void few() {
         // only behind the one on 3 does the one with 3 warm
-        SamovarOpinions x = by("warms 60*(last=number);cools 0;screams 0;", 0, 3, 0, 0, 9, 3, 0, 9, 1);
+        SamovarOpinions x = CHECK.by("warms 60*(last=number);cools 0;screams 0;", 0, 3, 0, 0, 9, 3, 0, 9, 1);
         soonestIs(x, 213, 1, 21, 2);
         // it cools before it boils: the third makes it
-        SamovarOpinions y = by("warms 60*(place=2)*(last=3)*(topic=0);cools 0;screams 0;", 0, 0, 0, 0, 0, 3, 0, 0, 0);
+        SamovarOpinions y = CHECK.by("warms 60*(place=2)*(last=3)*(topic=0);cools 0;screams 0;", 0, 0, 0, 0, 0, 3, 0, 0, 0);
         soonestIs(y, 123, 2, 123, 3);
         y.set(4, 2, 5);
         soonestIs(y, 321, 2, 321, 3);
         // fewer are better than the first
-        SamovarOpinions z = by("warms 25*number;cools 0;screams 0;", 0, 1, 0, 0, 1, 0, 0, 2, 0, 0, 2, 0);
+        SamovarOpinions z = CHECK.by("warms 25*number;cools 0;screams 0;", 0, 1, 0, 0, 1, 0, 0, 2, 0, 0, 2, 0);
         soonestIs(z, 3124, 0, 3, 1);
         z.set(1, 0, 71);
         soonestIs(z, 1324, 1, 13, 2);
@@ -305,7 +298,7 @@ public final class EveningTermsTest {
 
     /** RATHER NOT: the GUEST without whom it would be most; of like ones the first. */
     private static void ratherNotOfLikeOnes() {
-        SamovarOpinions x = by("warms number;cools 0;screams 0;", 0, 1, 0, 0, 2, 0, 0, 2, 0, 0, 1, 0, 0, 0, 0);
+        SamovarOpinions x = CHECK.by("warms number;cools 0;screams 0;", 0, 1, 0, 0, 2, 0, 0, 2, 0, 0, 1, 0, 0, 0, 0);
         for (int guest = 0; guest < 4; guest++) {
             x.set(5, guest, 0);
         }
@@ -341,14 +334,14 @@ public final class EveningTermsTest {
 
     /** TOPIC: that (0 .. 7) by which WARMEST of all would be most; of like ones the least. */
     private static void topicOfLikeOnes() {
-        SamovarOpinions still = by(STILL, 0, 0, 5, 0, 0, 5);
+        SamovarOpinions still = CHECK.by(STILL, 0, 0, 5, 0, 0, 5);
         CHECK.due("all alike: 0", still.topic(1, 0), 0);
         CHECK.due("WARMTH then", still.topic(1, 1), 20);
-        SamovarOpinions cold = by("warms -99;cools 0;screams 0;", 0, 0, 5);
+        SamovarOpinions cold = CHECK.by("warms -99;cools 0;screams 0;", 0, 0, 5);
         CHECK.due("all 0: 0", cold.topic(0, 0), 0);
         CHECK.due("WARMTH then", cold.topic(0, 1), 0);
         for (int topic = 0; topic <= 7; topic++) {
-            SamovarOpinions x = by("warms 3*(topic=" + topic + " or topic=7);cools 0;screams 0;", 0, 0, 2, 0, 0, 2);
+            SamovarOpinions x = CHECK.by("warms 3*(topic=" + topic + " or topic=7);cools 0;screams 0;", 0, 0, 2, 0, 0, 2);
             CHECK.due("of like ones the least", x.topic(1, 0), topic);
             CHECK.due("WARMTH then", x.topic(1, 1), topic == 2 ? 26 : 23);
             CHECK.due("each keeps its own", x.told(0, 4) * 10 + x.told(1, 4), 22);
@@ -421,7 +414,7 @@ public final class EveningTermsTest {
             CHECK.due("WAYS of " + n + " alike", x.tells(0, 0), all[n]);
             CHECK.due("the first", x.tells(0, 1), digits[n]);
         }
-        SamovarOpinions x = by("warms number;cools 0;screams 0;", 0, 1, 0, 0, 2, 0, 0, 1, 0);
+        SamovarOpinions x = CHECK.by("warms number;cools 0;screams 0;", 0, 1, 0, 0, 2, 0, 0, 1, 0);
         Check.lay(x, 0, 22, 23, 24);
         CHECK.due("2 1 3 and 2 3 1", x.tells(0, 0), 2);
         CHECK.due("the first", x.tells(0, 1), 213);
@@ -432,7 +425,7 @@ public final class EveningTermsTest {
 
     /** WAYS 0; the first of them (0: none); SURE (0: none). */
     private static void waysNone() {
-        SamovarOpinions x = by("warms number;cools 0;screams 0;", 0, 1, 0, 0, 2, 0);
+        SamovarOpinions x = CHECK.by("warms number;cools 0;screams 0;", 0, 1, 0, 0, 2, 0);
         int[][] never = {{20, 23}, {21, 22}, {22, 24}, {21, 100}, {-1, -1}, {277, 23}, {EVER, NEVER}, {0, 0}};
         for (int[] row : never) {
             Check.lay(x, 0, row);
@@ -444,7 +437,7 @@ public final class EveningTermsTest {
 
     /** SURE: who comes at one and the same place by all of these (bits). */
     private static void sure() {
-        SamovarOpinions x = by("warms number;cools 0;screams 0;", 0, 1, 0, 0, 1, 0, 0, 2, 0, 0, 3, 0, 0, 4, 0);
+        SamovarOpinions x = CHECK.by("warms number;cools 0;screams 0;", 0, 1, 0, 0, 1, 0, 0, 2, 0, 0, 3, 0, 0, 4, 0);
         x.film(0);
         CHECK.due("1 and 2 may change", x.tells(0, 0), 2);
         CHECK.due("SURE of the others", x.tells(0, 2), 4 + 8 + 16);
@@ -464,7 +457,7 @@ public final class EveningTermsTest {
 
     /** By the ORDER 0, 1, ..: the first place that is otherwise; NONE. */
     private static void otherwise() {
-        SamovarOpinions x = by("warms 2;cools 0;screams 0;", new int[15]);
+        SamovarOpinions x = CHECK.by("warms 2;cools 0;screams 0;", new int[15]);
         for (int place = 0; place < 5; place++) {
             for (int by : new int[] {-1, 1, 256, 65536}) {
                 Check.lay(x, 0, 22, 24, 26, 28, 30);
@@ -495,7 +488,7 @@ public final class EveningTermsTest {
             CHECK.due("NUMBERS: none", x.tells(0, 20 + guest), 0);
             CHECK.due("TOPICS: none", x.tells(0, 30 + guest), 0);
         }
-        SamovarOpinions y = by("warms number*10+topic;cools 0;screams 0;", 0, 0, 0, 0, 0, 0);
+        SamovarOpinions y = CHECK.by("warms number*10+topic;cools 0;screams 0;", 0, 0, 0, 0, 0, 0);
         y.set(0, 0, 0);
         for (int number = 0; number <= 9; number++) {
             Check.lay(y, 0, 0, 10 * number);
@@ -508,7 +501,7 @@ public final class EveningTermsTest {
             CHECK.due("TOPICS of 1", y.tells(0, 31), topic == 0 ? 1 : 0);
         }
         // an ORPHAN warms 3, a GUEST 0, a GENERAL 5, a PRINCESS 2
-        SamovarOpinions z = by(STILL, 1, 5, 0);
+        SamovarOpinions z = CHECK.by(STILL, 1, 5, 0);
         int[] told = {20, 25, 22, 23, 24};
         int[] kinds = {1 + 2 + 8, 4, 16, 32, 0};
         for (int i = 0; i < told.length; i++) {
@@ -545,7 +538,7 @@ public final class EveningTermsTest {
     /** TOPICS, in order, would be (z >>> 9) % 8, z being z * 1103515245 + 12345 (an int; SEED at first) anew for each. */
     private static void drawnTopics() {
         for (int seed : new int[] {0, 1, -1, 2, 12345, -98765, NEVER, EVER, 1 << 30}) {
-            SamovarOpinions x = by("warms topic*(place+1);cools 0;screams 0;", new int[15]);
+            SamovarOpinions x = CHECK.by("warms topic*(place+1);cools 0;screams 0;", new int[15]);
             x.set(0, 0, 0);
             int z = seed;
             int warmth = 0;
@@ -562,7 +555,7 @@ public final class EveningTermsTest {
 
     /** IN m seeds (1 .. 20), SEED and each 1 more (an int). */
     private static void seeds() {
-        SamovarOpinions x = by("warms 99;cools 0;screams topic=5;", 0, 0, 0);
+        SamovarOpinions x = CHECK.by("warms 99;cools 0;screams topic=5;", 0, 0, 0);
         for (int seed : new int[] {0, -20, EVER, EVER - 1, EVER - 19, NEVER}) {
             for (int m : new int[] {1, 2, 19, 20}) {
                 int loud = 0;
@@ -586,9 +579,9 @@ public final class EveningTermsTest {
 
     /** Part 0 above, 1 below the line, in lowest terms. */
     private static void lowestTerms() {
-        SamovarOpinions x = by("warms 99;cools 0;screams 0;", 0, 0, 0);
-        SamovarOpinions y = by("warms 99;cools 0;screams 1;", 0, 0, 0);
-        SamovarOpinions none = by("warms 99;cools 0;screams 1;");
+        SamovarOpinions x = CHECK.by("warms 99;cools 0;screams 0;", 0, 0, 0);
+        SamovarOpinions y = CHECK.by("warms 99;cools 0;screams 1;", 0, 0, 0);
+        SamovarOpinions none = CHECK.by("warms 99;cools 0;screams 1;");
         for (int m = 1; m <= 20; m++) {
             CHECK.due("none of " + m, x.chance(4, m, 0), 0);
             CHECK.due("none of " + m, x.chance(4, m, 1), 1);
@@ -598,7 +591,7 @@ public final class EveningTermsTest {
             CHECK.due("of no GUESTS none", none.chance(4, m, 1), 1);
         }
         // m's with many divisors, so that most quotients have to be made lower
-        SamovarOpinions z = by("warms 99;cools 0;screams topic<4;", 0, 0, 0);
+        SamovarOpinions z = CHECK.by("warms 99;cools 0;screams topic<4;", 0, 0, 0);
         for (int seed = 0; seed < 40; seed++) {
             for (int m : new int[] {12, 18, 20}) {
                 long above = z.chance(seed, m, 0);

@@ -1,4 +1,3 @@
-import java.io.DataInputStream;
 import java.lang.reflect.Constructor;
 import java.lang.reflect.Field;
 import java.lang.reflect.Method;
@@ -8,7 +7,10 @@ import java.nio.file.Files;
 import java.nio.file.Path;
 import java.util.ArrayList;
 import java.util.Arrays;
+import java.util.LinkedHashMap;
+import java.util.LinkedHashSet;
 import java.util.List;
+import java.util.Map;
 import java.util.Set;
 import java.util.TreeSet;
 import java.util.regex.Matcher;
@@ -30,7 +32,7 @@ public final class LanguageTest {
         insides();
         source();
         library();
-        noneCallsItselfUnseen();
+        depth();
         CHECK.end();
     }
 
@@ -121,79 +123,91 @@ public final class LanguageTest {
         CHECK.isTrue("methods were found", methods > 100);
     }
 
-    private static final Pattern MAY_USE = Pattern.compile("java/lang/Object\\.<init>|"
+    private static final Pattern MAY_USE = Pattern.compile("(java/lang/Object\\.<init>|"
         + "java/lang/String\\.(length|charAt|isEmpty|equals|indexOf|substring|toCharArray|<init>)|"
         + "java/lang/StringBuilder\\.(<init>|append|charAt|setCharAt|setLength|deleteCharAt|reverse|length|toString)|"
         + "java/lang/(Math|Integer|Long)\\.(compare|max|min|abs|bitCount|floorDiv|floorMod)|"
         + "java/lang/System\\.arraycopy|java/util/Arrays\\.(copyOf|copyOfRange|fill)|"
-        + "java/util/(ArrayList|List)\\.(<init>|add|get|set|remove|size|isEmpty|clear|of)|\\[[IJBC]\\.clone");
+        + "java/util/(ArrayList|List)\\.(<init>|add|get|set|remove|size|isEmpty|clear|of)|\\[[IJBC]\\.clone)\\(");
 
     /** The library's parts that the class names, as they stand in its compiled form. */
     private static void library() throws Exception {
-        List<String> files = new ArrayList<>(List.of("SamovarOpinions"));
-        for (Class<?> c : SamovarOpinions.class.getDeclaredClasses()) {
-            files.add(c.getName());
-        }
         int used = 0;
-        for (String file : files) {
-            try (DataInputStream in = new DataInputStream(
-                    SamovarOpinions.class.getResourceAsStream(file + ".class"))) {
-                for (String name : namedIn(in)) {
-                    if (!name.startsWith("SamovarOpinions")) {
-                        used++;
-                        CHECK.isTrue(file + " may use " + name, MAY_USE.matcher(name).matches());
-                    }
+        for (ClassFile file : files()) {
+            CHECK.isTrue("no call that is put together as it runs", !file.isPutTogetherAsItRuns());
+            for (String member : file.named()) {
+                if (!member.startsWith("SamovarOpinions")) {
+                    used++;
+                    CHECK.isTrue("the class may use " + member, MAY_USE.matcher(member).lookingAt());
                 }
             }
         }
         CHECK.isTrue("something was found", used > 0);
     }
 
-    /** Each field and method that a class file names, as Owner.name. */
-    private static List<String> namedIn(DataInputStream in) throws Exception {
-        in.readInt();
-        in.readInt();
-        int n = in.readUnsignedShort();
-        String[] words = new String[n];
-        int[][] pairs = new int[n][];
-        boolean[] isMember = new boolean[n];
-        for (int i = 1; i < n; i++) {
-            int tag = in.readUnsignedByte();
-            switch (tag) {
-                case 1: words[i] = in.readUTF(); break;
-                case 3: case 4: in.readInt(); break;
-                case 5: case 6: in.readLong(); i++; break;
-                case 7: case 8: case 16: case 19: case 20: pairs[i] = new int[] {in.readUnsignedShort()}; break;
-                case 15: in.readUnsignedByte(); in.readUnsignedShort(); break;
-                default:
-                    pairs[i] = new int[] {in.readUnsignedShort(), in.readUnsignedShort()};
-                    isMember[i] = tag >= 9 && tag <= 11;
-                    CHECK.isTrue("no call that is put together as it runs", tag != 17 && tag != 18);
-                    break;
-            }
+    private static List<ClassFile> files() throws Exception {
+        List<ClassFile> files = new ArrayList<>();
+        files.add(ClassFile.of(SamovarOpinions.class));
+        for (Class<?> c : SamovarOpinions.class.getDeclaredClasses()) {
+            files.add(ClassFile.of(c));
         }
-        List<String> named = new ArrayList<>();
-        for (int i = 1; i < n; i++) {
-            if (isMember[i]) {
-                named.add(words[pairs[pairs[i][0]][0]] + "." + words[pairs[pairs[i][1]][0]]);
-            }
-        }
-        return named;
+        return files;
     }
 
-    /** A method that calls itself by its name carries how deep it is: its first number is open or ahead. */
-    private static void noneCallsItselfUnseen() throws Exception {
-        String code = Files.readString(Path.of("src/main/java/SamovarOpinions.java"), StandardCharsets.US_ASCII);
-        Matcher m = Pattern.compile("\n( {4}| {8})(?! )[\\w\\[\\] ]*?(\\w+)\\(([^\n)]*)\\) \\{\n(.*?)\n\\1\\}", Pattern.DOTALL)
-            .matcher(code);
-        int found = 0;
-        while (m.find()) {
-            if (Pattern.compile("(?<![\\w.])" + m.group(2) + "\\(").matcher(m.group(4)).find()) {
-                found++;
-                CHECK.isTrue(m.group(2) + " tells how deep it is", m.group(3).startsWith("int open")
-                    || m.group(3).startsWith("int ahead"));
+    /** Calls that are no recursion go eight deep at most; what calls itself is told first how deep it is. */
+    private static void depth() throws Exception {
+        Map<String, Set<String>> calls = new LinkedHashMap<>();
+        for (ClassFile file : files()) {
+            calls.putAll(file.calls());
+        }
+        for (Set<String> called : calls.values()) {
+            called.retainAll(calls.keySet());
+        }
+        CHECK.isTrue("methods were found", calls.size() > 100);
+        Map<String, Set<String>> reached = new LinkedHashMap<>();
+        for (String m : calls.keySet()) {
+            reached.put(m, reachedFrom(m, calls));
+        }
+        int recursive = 0;
+        for (String m : calls.keySet()) {
+            if (reached.get(m).contains(m)) {
+                recursive++;
+                CHECK.isTrue(m + " is told how deep it is", m.contains("(I"));
+            }
+            int deep = deepFrom(m, calls, reached);
+            CHECK.isTrue(m + " goes " + deep + " deep", deep <= 8);
+        }
+        CHECK.isTrue("some that call themselves were found", recursive >= 4);
+    }
+
+    private static Set<String> reachedFrom(String m, Map<String, Set<String>> calls) {
+        Set<String> reached = new LinkedHashSet<>();
+        List<String> next = new ArrayList<>(calls.get(m));
+        while (!next.isEmpty()) {
+            String called = next.remove(next.size() - 1);
+            if (reached.add(called)) {
+                next.addAll(calls.get(called));
             }
         }
-        CHECK.isTrue("some were found", found >= 4);
+        return reached;
+    }
+
+    /** How many methods stand open at the most, those that call one another in a ring counted as one. */
+    private static int deepFrom(String m, Map<String, Set<String>> calls, Map<String, Set<String>> reached) {
+        Set<String> ring = new LinkedHashSet<>(List.of(m));
+        for (String other : reached.get(m)) {
+            if (reached.get(other).contains(m)) {
+                ring.add(other);
+            }
+        }
+        int deep = 0;
+        for (String one : ring) {
+            for (String called : calls.get(one)) {
+                if (!ring.contains(called)) {
+                    deep = Math.max(deep, deepFrom(called, calls, reached));
+                }
+            }
+        }
+        return deep + 1;
     }
 }

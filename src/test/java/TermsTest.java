@@ -37,14 +37,6 @@ public final class TermsTest {
         CHECK.end();
     }
 
-    /** A new object with a text as its rule, and guests. */
-    private static SamovarOpinions by(String text, int... guests) {
-        SamovarOpinions x = Check.with(guests);
-        CHECK.due("text of " + text, Check.read(x, text), 1);
-        CHECK.due("force(1)", x.force(1), 0);
-        return x;
-    }
-
     /** An object is used for at most 512 calls after it has been made. */
     private static void anObjectAnswersToItsLastCall() {
         SamovarOpinions x = Check.with(0, 0, 5, 1, 3, 5, 2, 4, 2, 3, 6, 2, 4, 2, 7);
@@ -85,7 +77,7 @@ public final class TermsTest {
 
     /** It BOILS at LIMIT or more. */
     private static void boilsAtLimitOrMore() {
-        SamovarOpinions x = by("warms 0;cools 0;screams 1;", 0, 0, 0);
+        SamovarOpinions x = CHECK.by("warms 0;cools 0;screams 1;", 0, 0, 0);
         Check.lay(x, 0, 0);
         for (int limit : new int[] {1, 2, 20, 70, 98, 99}) {
             x.set(1, 0, limit);
@@ -113,7 +105,7 @@ public final class TermsTest {
 
     /** SCREAMS: how often it truly did (0 at first). */
     private static void screamsAreThoseThatTrulyWere() {
-        SamovarOpinions x = by("warms 99;cools 0;screams 1;", 0, 0, 0, 0, 0, 0);
+        SamovarOpinions x = CHECK.by("warms 99;cools 0;screams 1;", 0, 0, 0, 0, 0, 0);
         Check.lay(x, 0, 0, 1);
         CHECK.due("SCREAMS at first", x.count(2), 0);
         CHECK.due("in thought it screams", x.evening(0, 2), 2);
@@ -136,7 +128,7 @@ public final class TermsTest {
 
     /** SCREAMS are as many more, EVENING is 1 more, WARMTH is as behind it. */
     private static void screamsAreAsManyMore() {
-        SamovarOpinions x = by("warms 99;cools 0;screams place<2;", 0, 0, 0, 0, 0, 0, 0, 0, 0);
+        SamovarOpinions x = CHECK.by("warms 99;cools 0;screams place<2;", 0, 0, 0, 0, 0, 0, 0, 0, 0);
         Check.lay(x, 0, 0, 1, 2);
         Check.lay(x, 1, 1);
         CHECK.due("hold", x.hold(0), 2);
@@ -260,16 +252,16 @@ public final class TermsTest {
         int[] v = {5, 4, 1, 0, -1, -2, -5, -99, 99};
         int[] half = {2, 2, 0, 0, 0, -1, -2, -49, 49};
         for (int i = 0; i < v.length; i++) {
-            SamovarOpinions x = by("warms 0-(" + v[i] + ")*-1;cools 0;screams 0;", 4, 0, 0);
+            SamovarOpinions x = CHECK.by("warms 0-(" + v[i] + ")*-1;cools 0;screams 0;", 4, 0, 0);
             CHECK.due("half of " + v[i], x.told(0, 7), half[i]);
         }
-        SamovarOpinions x = by("warms 0-9;cools 0;screams 0;", 4, 4, 0);
+        SamovarOpinions x = CHECK.by("warms 0-9;cools 0;screams 0;", 4, 4, 0);
         CHECK.due("half of -9 + 4", x.told(0, 7), -2);
     }
 
     /** WARMTH is half (cut). */
     private static void halfOfWarmthIsCut() {
-        SamovarOpinions x = by("warms 0;cools 0;screams 1;", 0, 0, 0);
+        SamovarOpinions x = CHECK.by("warms 0;cools 0;screams 1;", 0, 0, 0);
         Check.lay(x, 0, 0);
         x.set(1, 0, 1);
         int[] warmth = {1, 2, 3, 70, 71, 98, 99};
@@ -287,7 +279,7 @@ public final class TermsTest {
             {-10, -20, -4, -20, -2, 3}, {10, 20, 16, 20, 8, 10}};
         for (int kind = 0; kind <= 5; kind++) {
             for (int i = 0; i < 4; i++) {
-                SamovarOpinions x = by(i < 2 ? "warms 10;cools 0;screams 0;" : "warms -10;cools 0;screams 0;", kind, 6, 0);
+                SamovarOpinions x = CHECK.by(i < 2 ? "warms 10;cools 0;screams 0;" : "warms -10;cools 0;screams 0;", kind, 6, 0);
                 x.set(5, 0, i % 2 == 0 ? 1 : 0);
                 CHECK.due("WARMS of kind " + kind + ", " + i, x.told(0, 7), due[i][kind]);
             }
@@ -296,7 +288,7 @@ public final class TermsTest {
 
     /** AGAIN: the last remark was on the same TOPIC; RIVAL: 0 less a POET's, if AGAIN. */
     private static void warmsAgain() {
-        SamovarOpinions x = by("warms 10;cools 0;screams 0;", 3, 0, 4, 0, 0, 4, 0, 0, 5, 3, 0, 4);
+        SamovarOpinions x = CHECK.by("warms 10;cools 0;screams 0;", 3, 0, 4, 0, 0, 4, 0, 0, 5, 3, 0, 4);
         x.set(0, 0, 40);
         Check.lay(x, 0, 0);
         CHECK.due("the first", x.evening(0, 0), 60);
@@ -326,7 +318,7 @@ public final class TermsTest {
         int[] liked = {3, 3, 4, 3, 3, 99};
         int[] not = {3, 3, 3, 3, 4, 3};
         for (int i = 0; i < v.length; i++) {
-            SamovarOpinions x = by("warms 0+" + v[i] + ";cools 0;screams 0;", 5, 0, 0);
+            SamovarOpinions x = CHECK.by("warms 0+" + v[i] + ";cools 0;screams 0;", 5, 0, 0);
             CHECK.due("an ORPHAN's " + v[i], x.told(0, 7), liked[i]);
             x.set(5, 0, 0);
             CHECK.due("an ORPHAN's " + v[i] + ", not LIKED", x.told(0, 7), not[i]);
@@ -335,7 +327,7 @@ public final class TermsTest {
 
     /** PRINCESS: half (cut) of a GENERAL's, and 5 less, if EVENING is odd. */
     private static void princessCoolerOnOddEvenings() {
-        SamovarOpinions x = by("warms 0;cools 0;screams 0;", 4, 3, 0, 2, 3, 0);
+        SamovarOpinions x = CHECK.by("warms 0;cools 0;screams 0;", 4, 3, 0, 2, 3, 0);
         for (int evening : new int[] {0, 1, 2, 3, 500, 501, 998, 999}) {
             x.set(2, 0, evening);
             CHECK.due("a PRINCESS on evening " + evening, x.told(0, 7), evening % 2 == 0 ? 1 : -4);
@@ -355,7 +347,7 @@ public final class TermsTest {
             {0, 0, 0, 0, 0, 1, 97}, {0, 0, 0, 0, 0, 0, 0}};
         for (int i = 0; i < v.length; i++) {
             for (int kind = 0; kind <= 5; kind++) {
-                SamovarOpinions x = by("warms 0;cools 0+" + v[i] + ";screams 0;", kind, 5, 0);
+                SamovarOpinions x = CHECK.by("warms 0;cools 0+" + v[i] + ";screams 0;", kind, 5, 0);
                 CHECK.due("COOLS " + v[i] + " of kind " + kind, x.told(0, 8), due[kind][i]);
                 x.set(5, 0, 0);
                 CHECK.due("not LIKED, no otherwise", x.told(0, 8), due[kind][i]);
@@ -371,7 +363,7 @@ public final class TermsTest {
 
     /** RIVAL: COOLS as a POET, NUMBER more, if AGAIN. */
     private static void coolsAgain() {
-        SamovarOpinions x = by("warms 0;cools 4;screams 0;", 0, 0, 1, 3, 9, 1, 3, 0, 1, 3, 9, 2);
+        SamovarOpinions x = CHECK.by("warms 0;cools 4;screams 0;", 0, 0, 1, 3, 9, 1, 3, 0, 1, 3, 9, 2);
         x.set(0, 0, 50);
         int[] due = {46 - 13, 46 - 4, 46 - 4};
         for (int rival = 1; rival <= 3; rival++) {

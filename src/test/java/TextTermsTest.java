@@ -41,20 +41,6 @@ public final class TextTermsTest {
         CHECK.end();
     }
 
-    private static void fault(String text, int place) {
-        SamovarOpinions x = new SamovarOpinions();
-        CHECK.due("text of '" + text + "'", Check.read(x, text), -100 - place);
-        CHECK.due("no text more", x.count(4), 1);
-        CHECK.due("the tape is empty then", x.count(5), 0);
-    }
-
-    private static void good(String text) {
-        SamovarOpinions x = new SamovarOpinions();
-        CHECK.due("text of '" + text + "'", Check.read(x, text), 1);
-        CHECK.due("a text more", x.count(4), 2);
-        CHECK.due("the tape is empty then", x.count(5), 0);
-    }
-
     /** What an E is: told as warms, as cools (there 0 at least), and as screams (there 0 or not). */
     private static void is(String e, int value) {
         SamovarOpinions x = Check.with(0, 0, 0);
@@ -88,30 +74,30 @@ public final class TextTermsTest {
         while (b.length() < 159) {
             b.append(' ');
         }
-        good(b + ";");
-        fault(b + "?", 159);
-        fault(b + ".;", 159);
+        CHECK.good(b + ";");
+        CHECK.fault(b + "?", 159);
+        CHECK.fault(b + ".;", 159);
     }
 
     /** WORDS (a .. z), each as long as can be. */
     private static void wordsAreAsLongAsCanBe() {
-        fault("warmscools", 0);
-        fault("warmstopic" + REST, 0);
-        fault("warms topicor 1" + REST, 6);
-        fault("warms notlast" + REST, 6);
-        fault("warms 1 orlast" + REST, 8);
-        fault("warms 1 andlast" + REST, 8);
-        fault("warms a" + REST, 6);
-        fault("warms z" + REST, 6);
-        fault("war ms 1" + REST, 0);
-        fault("warms top ic" + REST, 6);
-        fault("WARMS 1" + REST, 0);
-        fault("warms Topic" + REST, 6);
-        fault("warms topiC" + REST, 6);
-        fault("warms topicC" + REST, 11);
-        good("warms topic or last or warmth or number or said or place" + REST);
-        good("warms(topic)or(1)and(2)" + REST);
-        good("warms topic;cools topic;screams topic;");
+        CHECK.fault("warmscools", 0);
+        CHECK.fault("warmstopic" + REST, 0);
+        CHECK.fault("warms topicor 1" + REST, 6);
+        CHECK.fault("warms notlast" + REST, 6);
+        CHECK.fault("warms 1 orlast" + REST, 8);
+        CHECK.fault("warms 1 andlast" + REST, 8);
+        CHECK.fault("warms a" + REST, 6);
+        CHECK.fault("warms z" + REST, 6);
+        CHECK.fault("war ms 1" + REST, 0);
+        CHECK.fault("warms top ic" + REST, 6);
+        CHECK.fault("WARMS 1" + REST, 0);
+        CHECK.fault("warms Topic" + REST, 6);
+        CHECK.fault("warms topiC" + REST, 6);
+        CHECK.fault("warms topicC" + REST, 11);
+        CHECK.good("warms topic or last or warmth or number or said or place" + REST);
+        CHECK.good("warms(topic)or(1)and(2)" + REST);
+        CHECK.good("warms topic;cools topic;screams topic;");
     }
 
     /** NUMBERS (as many digits as stand there). */
@@ -119,21 +105,21 @@ public final class TextTermsTest {
         is("12", 12);
         is("0012", 12);
         is("1or 0", 1);
-        fault("warms 1 2" + REST, 8);
-        fault("warms 12or3" + REST.substring(1), 11);
-        fault("warms 1topic" + REST, 7);
-        good("warms1or 2and 3" + REST);
-        good("warms1;cools2;screams3;");
+        CHECK.fault("warms 1 2" + REST, 8);
+        CHECK.fault("warms 12or3" + REST.substring(1), 11);
+        CHECK.fault("warms 1topic" + REST, 7);
+        CHECK.good("warms1or 2and 3" + REST);
+        CHECK.good("warms1;cools2;screams3;");
     }
 
     /** NUMBERS of 4 digits at most; a FAULT is a NUMBER that is too long. */
     private static void fourDigitsAtMost() {
         for (String n : new String[] {"0", "9", "10", "99", "100", "999", "1000", "9999", "0000", "0001"}) {
-            good("warms " + n + REST);
+            CHECK.good("warms " + n + REST);
         }
         for (String n : new String[] {"00000", "00001", "10000", "12345", "99999", "123456789012345678901234567890"}) {
-            fault("warms " + n + REST, 6);
-            fault("warms 1+" + n + REST, 8);
+            CHECK.fault("warms " + n + REST, 6);
+            CHECK.fault("warms 1+" + n + REST, 8);
         }
         is("9999-9990", 9);
         is("9999-0999-8999", 1);
@@ -141,11 +127,11 @@ public final class TextTermsTest {
 
     /** Blanks (32, 10) may stand between. */
     private static void blanks() {
-        good("warms 1 \n  \n\n ; \n cools\n1\n;\nscreams\n1\n;\n\n");
-        good("  \nwarms 1" + REST);
-        good("warms\n1\n<\n2" + REST);
-        fault("warms 1 \n \n ?" + REST, 12);
-        fault("\n warms \n x" + REST, 10);
+        CHECK.good("warms 1 \n  \n\n ; \n cools\n1\n;\nscreams\n1\n;\n\n");
+        CHECK.good("  \nwarms 1" + REST);
+        CHECK.good("warms\n1\n<\n2" + REST);
+        CHECK.fault("warms 1 \n \n ?" + REST, 12);
+        CHECK.fault("\n warms \n x" + REST, 10);
     }
 
     /** And no other byte: a FAULT is at a byte that begins no TOKEN. */
@@ -157,9 +143,9 @@ public final class TextTermsTest {
         for (int b = 0; b <= 255; b++) {
             boolean isWord = b >= 'a' && b <= 'z' || b >= '0' && b <= '9';
             if (!isWord && !begin.contains(b)) {
-                fault("warms 1 " + (char) b + ";cools 1;screams 1;", 8);
-                fault("warms 1;cools 1;screams 1;" + (char) b, 26);
-                fault((char) b + "warms 1;cools 1;screams 1;", 0);
+                CHECK.fault("warms 1 " + (char) b + ";cools 1;screams 1;", 8);
+                CHECK.fault("warms 1;cools 1;screams 1;" + (char) b, 26);
+                CHECK.fault((char) b + "warms 1;cools 1;screams 1;", 0);
             }
         }
     }
@@ -171,13 +157,13 @@ public final class TextTermsTest {
         is("1+2=4", 0);
         is("1<2 and 2<3 or not 1", 1);
         for (String key : new String[] {"warms", "cools", "screams", "or", "and"}) {
-            fault("warms " + key + REST, 6);
-            fault("warms 1+" + key + REST, 8);
+            CHECK.fault("warms " + key + REST, 6);
+            CHECK.fault("warms 1+" + key + REST, 8);
         }
-        fault("warms not" + REST, 9);
+        CHECK.fault("warms not" + REST, 9);
         for (String name : new String[] {"topic", "last", "warmth", "number", "said", "place"}) {
-            fault(name + " 1" + REST, 0);
-            fault("warms 1 " + name + REST, 8);
+            CHECK.fault(name + " 1" + REST, 0);
+            CHECK.fault("warms 1 " + name + REST, 8);
         }
     }
 
@@ -190,10 +176,10 @@ public final class TextTermsTest {
         Set<String> can = new HashSet<>(Arrays.asList(may.split(" ")));
         for (String token : TOKENS) {
             String text = ahead + " " + token;
-            fault(text, can.contains(token) ? text.length() : ahead.length() + 1);
+            CHECK.fault(text, can.contains(token) ? text.length() : ahead.length() + 1);
             // also where much stands behind it
             if (!can.contains(token)) {
-                fault(text + " 1;cools 1;screams 1;", ahead.length() + 1);
+                CHECK.fault(text + " 1;cools 1;screams 1;", ahead.length() + 1);
             }
         }
     }
@@ -224,62 +210,62 @@ public final class TextTermsTest {
         only("warms 1;cools 1;", "screams");
         // behind this a ; is the text's end
         for (String token : "or and < = + - *".split(" ")) {
-            fault("warms 1;cools 1;screams 1 " + token, 26 + token.length());
+            CHECK.fault("warms 1;cools 1;screams 1 " + token, 26 + token.length());
         }
-        fault("warms 1;cools 1;screams 1 )", 26);
-        fault("warms 1;cools 1;screams 1 1", 26);
-        fault("warms 1;cools 1;screams 1 not", 26);
-        good("warms 1;cools 1;screams 1 ;");
+        CHECK.fault("warms 1;cools 1;screams 1 )", 26);
+        CHECK.fault("warms 1;cools 1;screams 1 1", 26);
+        CHECK.fault("warms 1;cools 1;screams 1 not", 26);
+        CHECK.good("warms 1;cools 1;screams 1 ;");
     }
 
     /** The text's size, if it ends too early. */
     private static void aTextThatEndsTooEarly() {
-        fault("", 0);
+        CHECK.fault("", 0);
         String[] tokens = "warms ( 5 + - topic ) * 2 < 4 ; cools not 2 = 3 and 1 or 4 ; screams last < 4".split(" ");
         StringBuilder b = new StringBuilder();
         for (String token : tokens) {
             b.append(token);
-            fault(b.toString(), b.length());
+            CHECK.fault(b.toString(), b.length());
             b.append(' ');
-            fault(b.toString(), b.length());
+            CHECK.fault(b.toString(), b.length());
             b.append('\n');
-            fault(b.toString(), b.length());
+            CHECK.fault(b.toString(), b.length());
         }
-        good(b + ";");
+        CHECK.good(b + ";");
     }
 
     private static void nothingStandsBehindAText() {
         for (String token : TOKENS) {
-            fault("warms 1;cools 1;screams 1; " + token, 27);
-            fault("warms 1;cools 1;screams 1;" + token, 26);
+            CHECK.fault("warms 1;cools 1;screams 1; " + token, 27);
+            CHECK.fault("warms 1;cools 1;screams 1;" + token, 26);
         }
     }
 
     private static void aByteThatBeginsNone() {
-        fault("warms 1+?" + REST, 8);
-        fault("warms 1?" + REST, 7);
-        fault("warms (1 ? 2)" + REST, 9);
-        fault("?", 0);
-        fault("warms 1;cools 1;screams 1?", 25);
-        fault("warms 1" + (char) 255 + REST, 7);
-        fault("warms 1" + (char) 0 + REST, 7);
+        CHECK.fault("warms 1+?" + REST, 8);
+        CHECK.fault("warms 1?" + REST, 7);
+        CHECK.fault("warms (1 ? 2)" + REST, 9);
+        CHECK.fault("?", 0);
+        CHECK.fault("warms 1;cools 1;screams 1?", 25);
+        CHECK.fault("warms 1" + (char) 255 + REST, 7);
+        CHECK.fault("warms 1" + (char) 0 + REST, 7);
     }
 
     private static void aWordThatIsNeither() {
         for (String word : new String[] {"x", "warm", "cool", "scream", "warmths", "topics", "lasts", "sai", "saids", "plac",
             "places", "numbe", "numbers", "o", "orr", "an", "ands", "no", "nots", "la", "tapic", "abcdefghijklmnopqrstuvwxyz"}) {
-            fault("warms " + word + REST, 6);
-            fault("warms 1 " + word + REST, 8);
-            fault(word + " 1" + REST, 0);
+            CHECK.fault("warms " + word + REST, 6);
+            CHECK.fault("warms 1 " + word + REST, 8);
+            CHECK.fault(word + " 1" + REST, 0);
         }
     }
 
     private static void theFirstFaultIsTold() {
-        fault("warms 1 ) ? x 12345", 8);
-        fault("warms x ? )", 6);
-        fault("warms 12345 x", 6);
-        fault("warms ? 12345", 6);
-        fault("warms 1 ((((((", 8);
+        CHECK.fault("warms 1 ) ? x 12345", 8);
+        CHECK.fault("warms x ? )", 6);
+        CHECK.fault("warms 12345 x", 6);
+        CHECK.fault("warms ? 12345", 6);
+        CHECK.fault("warms 1 ((((((", 8);
     }
 
     /** A ( , a not, a - ahead of a ONE while 5 of these are open. */
@@ -296,52 +282,52 @@ public final class TextTermsTest {
                 behind.append(rest % 3 == 0 ? ")" : "");
             }
             if (canStand) {
-                good(ahead + "1" + behind + REST);
+                CHECK.good(ahead + "1" + behind + REST);
                 for (String sixth : opening) {
-                    fault(ahead + sixth + "1" + (sixth.equals("(") ? ")" : "") + behind + REST, ahead.length());
+                    CHECK.fault(ahead + sixth + "1" + (sixth.equals("(") ? ")" : "") + behind + REST, ahead.length());
                 }
             }
         }
         // in each part
-        good("warms 1;cools (((((1)))));screams not not not not not 1;");
-        fault("warms 1;cools ((((((1))))));screams 1;", 19);
-        fault("warms 1;cools 1;screams not not not not not not 1;", 44);
-        fault("warms 1;cools 1;screams ------1;", 29);
+        CHECK.good("warms 1;cools (((((1)))));screams not not not not not 1;");
+        CHECK.fault("warms 1;cools ((((((1))))));screams 1;", 19);
+        CHECK.fault("warms 1;cools 1;screams not not not not not not 1;", 44);
+        CHECK.fault("warms 1;cools 1;screams ------1;", 29);
     }
 
     /** A ( till its ) , not and - till what they belong to ends. */
     private static void whatEndsIsOpenNoMore() {
-        good("warms (((((1)))))+(((((2)))))*(((((3)))))<(((((4)))))" + REST);
-        good("warms -----1+-----2*-----3<-----4 and -----5 or -----6" + REST);
-        good("warms not not not not not 1 and not not not not not 2 or not not not not not 3" + REST);
-        good("warms not not not not not 1 or -----2 and (((((3)))))" + REST);
+        CHECK.good("warms (((((1)))))+(((((2)))))*(((((3)))))<(((((4)))))" + REST);
+        CHECK.good("warms -----1+-----2*-----3<-----4 and -----5 or -----6" + REST);
+        CHECK.good("warms not not not not not 1 and not not not not not 2 or not not not not not 3" + REST);
+        CHECK.good("warms not not not not not 1 or -----2 and (((((3)))))" + REST);
         // a - belongs to its ONE: it is no more open behind that
-        good("warms (((((1)*-1)*-1)*-1)*-1)" + REST);
-        good("warms (-1+(-1+(-1+(-1+(1)))))" + REST);
-        fault("warms (-1+(-1+(-1+(-1+(-1)))))", 23);
-        good("warms -(1)*(((((1)))))" + REST);
-        good("warms -(-(-1))*(((((1)))))" + REST);
-        fault("warms -((((1)))-(1+(1)))-(((((-1)))))", 30);
+        CHECK.good("warms (((((1)*-1)*-1)*-1)*-1)" + REST);
+        CHECK.good("warms (-1+(-1+(-1+(-1+(1)))))" + REST);
+        CHECK.fault("warms (-1+(-1+(-1+(-1+(-1)))))", 23);
+        CHECK.good("warms -(1)*(((((1)))))" + REST);
+        CHECK.good("warms -(-(-1))*(((((1)))))" + REST);
+        CHECK.fault("warms -((((1)))-(1+(1)))-(((((-1)))))", 30);
         // a not belongs to a comparison: it is open till that ends
-        good("warms not 1 < ((((1))))" + REST);
-        fault("warms not 1 < (((((1)))))", 18);
-        fault("warms not 1 + (((((1)))))", 18);
-        fault("warms not 1 * (((((1)))))", 18);
-        fault("warms not 1 = -----1", 18);
-        good("warms not 1 and (((((1)))))" + REST);
-        good("warms not 1 or (((((1)))))" + REST);
-        good("warms not 1;cools (((((1)))));screams 1;");
+        CHECK.good("warms not 1 < ((((1))))" + REST);
+        CHECK.fault("warms not 1 < (((((1)))))", 18);
+        CHECK.fault("warms not 1 + (((((1)))))", 18);
+        CHECK.fault("warms not 1 * (((((1)))))", 18);
+        CHECK.fault("warms not 1 = -----1", 18);
+        CHECK.good("warms not 1 and (((((1)))))" + REST);
+        CHECK.good("warms not 1 or (((((1)))))" + REST);
+        CHECK.good("warms not 1;cools (((((1)))));screams 1;");
         // two nots are open till the same comparison ends
-        good("warms not not 1 < (((1)))" + REST);
-        fault("warms not not 1 < ((((1))))", 21);
-        good("warms not not 1 and (((((1)))))" + REST);
+        CHECK.good("warms not not 1 < (((1)))" + REST);
+        CHECK.fault("warms not not 1 < ((((1))))", 21);
+        CHECK.good("warms not not 1 and (((((1)))))" + REST);
     }
 
     private static void aMinusBetweenOpensNothing() {
-        good("warms (((((1-1-1-1-1-1-1)))))" + REST);
-        fault("warms (((((1--1)))))", 13);
-        good("warms 1-1-1-1-1-1-(((((1)))))" + REST);
-        good("warms ((((1--1))))" + REST);
+        CHECK.good("warms (((((1-1-1-1-1-1-1)))))" + REST);
+        CHECK.fault("warms (((((1--1)))))", 13);
+        CHECK.good("warms 1-1-1-1-1-1-(((((1)))))" + REST);
+        CHECK.good("warms ((((1--1))))" + REST);
     }
 
     /** An E is an int (32 bits, wrapping). */

@@ -191,124 +191,112 @@ public final class TextsTest {
         CHECK.due("boils first", x.evening(0, 1), 0);
     }
 
-    private static void fault(String text, int place) {
-        SamovarOpinions x = new SamovarOpinions();
-        CHECK.due("text of '" + text + "'", Check.read(x, text), -100 - place);
-        CHECK.due("no text more", x.count(4), 1);
-        CHECK.due("the tape is empty", x.count(5), 0);
-    }
-
-    private static void good(String text) {
-        SamovarOpinions x = new SamovarOpinions();
-        CHECK.due("text of '" + text + "'", Check.read(x, text), 1);
-    }
-
     private static void faultsOfTokens() {
-        fault("?", 0);
-        fault("\t", 0);
-        fault("  \r", 2);
-        fault("Warms 1;", 0);
-        fault("warm 1;", 0);
-        fault("warmss 1;", 0);
-        fault("warmsa 1;", 0);
-        fault("warmsz 1;", 0);
-        fault("warms 1z;", 7);
-        fault("warms 1{;", 7);
-        fault("warms 1`;", 7);
-        fault("warms 1:;", 7);
-        fault("warms 1/2;", 7);
-        fault("warms 1,2;", 7);
-        fault("warmscools", 0);
-        fault("warms hot;", 6);
-        fault("warms topics;", 6);
-        fault("warms 12345;", 6);
-        fault("warms 00000;", 6);
-        fault("warms 12topic;", 8);
-        fault("warms topic12;", 11);
-        fault("warms 12x;", 8);
-        fault("warms 1 > 2;", 8);
-        fault("warms 1;cools 1;screams 1; \u00e9", 27);
-        fault("warms 1 ) ?", 8);
-        fault("warms 1" + (char) 0 + ";", 7);
-        good("warms1;cools2;screams3;");
-        good("\n warms\n1 ; cools 2 ;screams\n\n3; \n");
-        good("warms 1<-1;cools 2;screams topic=last;");
-        good("warms 9999;cools 0000;screams 1;");
+        CHECK.fault("?", 0);
+        CHECK.fault("\t", 0);
+        CHECK.fault("  \r", 2);
+        CHECK.fault("Warms 1;", 0);
+        CHECK.fault("warm 1;", 0);
+        CHECK.fault("warmss 1;", 0);
+        CHECK.fault("warmsa 1;", 0);
+        CHECK.fault("warmsz 1;", 0);
+        CHECK.fault("warms 1z;", 7);
+        CHECK.fault("warms 1{;", 7);
+        CHECK.fault("warms 1`;", 7);
+        CHECK.fault("warms 1:;", 7);
+        CHECK.fault("warms 1/2;", 7);
+        CHECK.fault("warms 1,2;", 7);
+        CHECK.fault("warmscools", 0);
+        CHECK.fault("warms hot;", 6);
+        CHECK.fault("warms topics;", 6);
+        CHECK.fault("warms 12345;", 6);
+        CHECK.fault("warms 00000;", 6);
+        CHECK.fault("warms 12topic;", 8);
+        CHECK.fault("warms topic12;", 11);
+        CHECK.fault("warms 12x;", 8);
+        CHECK.fault("warms 1 > 2;", 8);
+        CHECK.fault("warms 1;cools 1;screams 1; \u00e9", 27);
+        CHECK.fault("warms 1 ) ?", 8);
+        CHECK.fault("warms 1" + (char) 0 + ";", 7);
+        CHECK.good("warms1;cools2;screams3;");
+        CHECK.good("\n warms\n1 ; cools 2 ;screams\n\n3; \n");
+        CHECK.good("warms 1<-1;cools 2;screams topic=last;");
+        CHECK.good("warms 9999;cools 0000;screams 1;");
     }
 
     private static void faultsOfForm() {
-        fault("", 0);
-        fault("  ", 2);
-        fault("warms", 5);
-        fault("warms  ", 7);
-        fault("warms 1", 7);
-        fault("warms 1;", 8);
-        fault("warms 1;cools 1;screams 1", 25);
-        fault("warms 1;cools 1;screams 1;;", 26);
-        fault("warms 1;cools 1;screams 1; warms", 27);
-        fault("cools 1;", 0);
-        fault("warms 1;cools 1;(1;", 16);
-        fault("warms screams 1);cools 1;screams 1;", 6);
-        fault("warms 1;screams 1;", 8);
-        fault("warms ;", 6);
-        fault("warms +1;", 6);
-        fault("warms *1;", 6);
-        fault("warms 1+;", 8);
-        fault("warms 1 2;", 8);
-        fault("warms 1<2<3;", 9);
-        fault("warms 1=2=3;", 9);
-        fault("warms 1=2<3;", 9);
-        fault("warms 1<not 2;", 8);
-        fault("warms 1+not 2;", 8);
-        fault("warms -not 2;", 7);
-        fault("warms not;", 9);
-        fault("warms and 1;", 6);
-        fault("warms 1 and;", 11);
-        fault("warms 1 or or 1;", 11);
-        fault("warms (1;", 8);
-        fault("warms 1);", 7);
-        fault("warms ();", 7);
-        fault("warms (1)(2);", 9);
-        fault("warms warms;", 6);
-        fault("warms (1 or 2;", 13);
+        CHECK.fault("", 0);
+        CHECK.fault("  ", 2);
+        CHECK.fault("warms", 5);
+        CHECK.fault("warms  ", 7);
+        CHECK.fault("warms 1", 7);
+        CHECK.fault("warms 1;", 8);
+        CHECK.fault("warms 1;cools 1;screams 1", 25);
+        CHECK.fault("warms 1;cools 1;screams 1;;", 26);
+        CHECK.fault("warms 1;cools 1;screams 1; warms", 27);
+        CHECK.fault("cools 1;", 0);
+        CHECK.fault("warms 1;cools 1;(1;", 16);
+        CHECK.fault("warms screams 1);cools 1;screams 1;", 6);
+        CHECK.fault("warms 1;screams 1;", 8);
+        CHECK.fault("warms ;", 6);
+        CHECK.fault("warms +1;", 6);
+        CHECK.fault("warms *1;", 6);
+        CHECK.fault("warms 1+;", 8);
+        CHECK.fault("warms 1 2;", 8);
+        CHECK.fault("warms 1<2<3;", 9);
+        CHECK.fault("warms 1=2=3;", 9);
+        CHECK.fault("warms 1=2<3;", 9);
+        CHECK.fault("warms 1<not 2;", 8);
+        CHECK.fault("warms 1+not 2;", 8);
+        CHECK.fault("warms -not 2;", 7);
+        CHECK.fault("warms not;", 9);
+        CHECK.fault("warms and 1;", 6);
+        CHECK.fault("warms 1 and;", 11);
+        CHECK.fault("warms 1 or or 1;", 11);
+        CHECK.fault("warms (1;", 8);
+        CHECK.fault("warms 1);", 7);
+        CHECK.fault("warms ();", 7);
+        CHECK.fault("warms (1)(2);", 9);
+        CHECK.fault("warms warms;", 6);
+        CHECK.fault("warms (1 or 2;", 13);
         // the rest is a text that could stand, were the fault none
         String rest = ";cools 1;screams 1;";
-        fault("warms" + rest, 5);
-        fault("warms 1 or" + rest, 10);
-        fault("warms 1 and" + rest, 11);
-        fault("warms not" + rest, 9);
-        fault("warms 1<" + rest, 8);
-        fault("warms 1=" + rest, 8);
-        fault("warms 1+" + rest, 8);
-        fault("warms 1-" + rest, 8);
-        fault("warms 1*" + rest, 8);
-        fault("warms -" + rest, 7);
-        fault("warms (" + rest, 7);
-        fault("warms (1" + rest, 8);
-        fault("warms 1)" + rest, 7);
-        good("warms 1 and not 2 or not not 3 < 4;cools (not 1)<2;screams -(not 1);");
+        CHECK.fault("warms" + rest, 5);
+        CHECK.fault("warms 1 or" + rest, 10);
+        CHECK.fault("warms 1 and" + rest, 11);
+        CHECK.fault("warms not" + rest, 9);
+        CHECK.fault("warms 1<" + rest, 8);
+        CHECK.fault("warms 1=" + rest, 8);
+        CHECK.fault("warms 1+" + rest, 8);
+        CHECK.fault("warms 1-" + rest, 8);
+        CHECK.fault("warms 1*" + rest, 8);
+        CHECK.fault("warms -" + rest, 7);
+        CHECK.fault("warms (" + rest, 7);
+        CHECK.fault("warms (1" + rest, 8);
+        CHECK.fault("warms 1)" + rest, 7);
+        CHECK.good("warms 1 and not 2 or not not 3 < 4;cools (not 1)<2;screams -(not 1);");
     }
 
     private static void faultsOfDepth() {
-        good("warms (((((1)))));cools -----1;screams not not not not not 1;");
-        fault("warms ((((((1))))));", 11);
-        fault("warms ------1;", 11);
-        fault("warms not not not not not not 1;", 26);
-        fault("warms (-(not (-1)));", 14);
-        fault("warms 1;cools 1;screams -(-(-(1)));", 29);
-        good("warms (-(not (1)));cools 1;screams -(-(-1));");
-        fault("warms (((((not 1)))));", 11);
-        fault("warms (((((-1)))));", 11);
-        good("warms (((((1-1)))));cools 1;screams 1;");
+        CHECK.good("warms (((((1)))));cools -----1;screams not not not not not 1;");
+        CHECK.fault("warms ((((((1))))));", 11);
+        CHECK.fault("warms ------1;", 11);
+        CHECK.fault("warms not not not not not not 1;", 26);
+        CHECK.fault("warms (-(not (-1)));", 14);
+        CHECK.fault("warms 1;cools 1;screams -(-(-(1)));", 29);
+        CHECK.good("warms (-(not (1)));cools 1;screams -(-(-1));");
+        CHECK.fault("warms (((((not 1)))));", 11);
+        CHECK.fault("warms (((((-1)))));", 11);
+        CHECK.good("warms (((((1-1)))));cools 1;screams 1;");
         // what was open has ended
-        good("warms -----1 + -----2 * -----3 < -----4 and -----5;cools (((((1)))))+(((((2)))));screams 1;");
-        good("warms not not not not not 1 and not not not not not 1 or -----1;cools 1;screams 1;");
+        CHECK.good("warms -----1 + -----2 * -----3 < -----4 and -----5;cools (((((1)))))+(((((2)))));screams 1;");
+        CHECK.good("warms not not not not not 1 and not not not not not 1 or -----1;cools 1;screams 1;");
         // a not is open till its comparison ends
-        fault("warms not 1 < -----1;", 18);
-        good("warms not 1 < ----1;cools 1;screams 1;");
-        good("warms not 1 or -----1;cools 1;screams 1;");
+        CHECK.fault("warms not 1 < -----1;", 18);
+        CHECK.good("warms not 1 < ----1;cools 1;screams 1;");
+        CHECK.good("warms not 1 or -----1;cools 1;screams 1;");
         // a - is open till its ONE ends
-        good("warms ----(1)+(((((2)))));cools 1;screams 1;");
-        fault("warms -----(1);", 11);
+        CHECK.good("warms ----(1)+(((((2)))));cools 1;screams 1;");
+        CHECK.fault("warms -----(1);", 11);
     }
 }
